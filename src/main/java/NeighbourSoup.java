@@ -61,7 +61,7 @@ public final class NeighbourSoup {
 
     private static final String LIKING_LETTERS = "lnshit";
 
-    private static final int[] TENS = {1, 10, 100, 1000, 10000, 100000, 1000000};
+    private static final int[] TENS = {1, 10, 100, 1000, 10000, 100000};
 
     private final Tape tape;
     private final StreetReader streetReader;
@@ -328,7 +328,7 @@ public final class NeighbourSoup {
         int bestPut = NOTHING;
         int bestMeal = HIDDEN;
         for (int i = 0; i <= STUFFS; i++) {
-            int stuff = drawnPut(i);
+            int stuff = putByNumber(i);
             trial.puts[house] = stuff;
             noon.run(trial);
             int meal = noon.mealOf(other);
@@ -340,8 +340,9 @@ public final class NeighbourSoup {
         return what == 0 ? bestPut : bestMeal;
     }
 
-    private static int drawnPut(int draw) {
-        return draw < STUFFS ? draw : NOTHING;
+    /** Puts by numbers 0 .. 5: behind the stuffs comes nothing. */
+    private static int putByNumber(int number) {
+        return number < STUFFS ? number : NOTHING;
     }
 
     public int about(int house, int n) {
@@ -400,7 +401,8 @@ public final class NeighbourSoup {
         }
         int way = NONE;
         int leastHarm = NONE;
-        for (int grains = 1; grains <= MOST_GRAINS; grains++) {
+        // fewer grains than that can't be enough: nobody gets more than is put in
+        for (int grains = least; grains <= MOST_GRAINS; grains++) {
             for (int from = 0; from < street.houses; from++) {
                 noon.runPoisoned(now, from, grains);
                 int own = noon.got(house, POISON);
@@ -479,7 +481,7 @@ public final class NeighbourSoup {
         for (int i = 0; i < n; i++) {
             for (int house = 0; house < street.houses; house++) {
                 x = x * 6364136223846793005L + 1442695040888963407L;
-                now.puts[house] = drawnPut((int) ((x >>> 33) % (STUFFS + 1)));
+                now.puts[house] = putByNumber((int) ((x >>> 33) % (STUFFS + 1)));
             }
             goOn();
         }

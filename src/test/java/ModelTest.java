@@ -3,7 +3,7 @@ import java.util.Random;
 
 /** Runs of drawn calls, each on the class and on the model: all answers alike, and all that can be asked of the state. */
 public final class ModelTest {
-    private static final int RUNS = 260;
+    private static final int RUNS = 600;
     private static final int CALLS = 130;
     private final Random random;
     private final NeighbourSoup soup = new NeighbourSoup();
