@@ -161,6 +161,7 @@ public final class TextTest {
         fault(0, "h;h;h;h;h;h;p;l;", 16);
         fault(0, "h;h;h;h;h;h;p;l;h", 16);
         fault(0, "h" + (char) 9, 1);
+        fault(0, "h" + (char) 1, 1);
         NeighbourSoup x = new NeighbourSoup();
         Check.feed(x, "h");
         Check.due("fault(-1)", x.fault(-1), -2);
