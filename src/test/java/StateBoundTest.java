@@ -102,14 +102,13 @@ public final class StateBoundTest {
 
     /** Promise 8: "digits to the base 10, HOUSES, the first the highest (each once ...)", "False: no such one." */
     private static void orderOfThree() {
-        NeighbourSoup x = Check.street("h;h;h");
-        int was = 12;
         for (int order = -250; order <= 3300; order++) {
+            NeighbourSoup y = Check.street("h;h;h");
             boolean is = isOrderOf(3, order);
-            Check.due("order(" + order + ")", x.order(order), is);
-            was = is ? order : was;
-            Check.due("the order", x.count(9), was);
+            Check.due("order(" + order + ")", y.order(order), is);
+            Check.due("the order", y.count(9), is ? order : 12);
         }
+        NeighbourSoup x = Check.street("h;h;h");
         x.order(201);
         Check.due("the first is the highest", x.house(2, 9) * 100 + x.house(0, 9) * 10 + x.house(1, 9), 12);
         for (int order : new int[] {-12, -1, 11, 112, 13, 123, 1012, 9012, 2147480012, MIN, MAX}) {
@@ -584,26 +583,41 @@ public final class StateBoundTest {
         return seen;
     }
 
+    private static NeighbourSoup ofManyStores() {
+        NeighbourSoup x = Check.street("ha99l7;hc99l5k2;hn2;lg1");
+        x.put(0, 0);
+        x.put(1, 2);
+        return x;
+    }
+
+    private static void goOn(NeighbourSoup x, int days) {
+        for (int rest = days; rest > 0; rest -= 30) {
+            x.days(Math.min(rest, 30));
+        }
+    }
+
     /** "STORES, the DAY, MEALS as ahead of it": days and undoing in turns, far round the thirty. */
     private static void undoneLikeAStack() {
-        NeighbourSoup x = Check.street("ha99b99l7;hc99d99e99l5k2;hn2;lg1");
-        List<List<Integer>> ahead = new ArrayList<>();
         int[] turns = {5, -2, 40, -10, 7, -27, 1, 30, 30, -30, 3, -3, 25, 10, -30};
         int day = 0;
-        for (int turn : turns) {
-            for (int i = 0; i < Math.abs(turn); i++) {
-                if (turn > 0) {
-                    x.put(day % 2, day % 2 == 0 ? day % 2 : 2 + day % 3);
-                    ahead.add(look(x));
-                    x.days(1);
-                    day++;
-                } else {
-                    Check.due("undo", x.undo(), --day);
-                    Check.due("all is as ahead of day " + day, look(x).equals(ahead.remove(day)), true);
+        int can = 0;
+        for (int n = 1; n <= turns.length; n++) {
+            NeighbourSoup x = ofManyStores();
+            for (int turn = 0; turn < n; turn++) {
+                goOn(x, turns[turn]);
+                for (int i = turns[turn]; i < 0; i++) {
+                    x.undo();
                 }
             }
+            day += turns[n - 1];
+            NeighbourSoup straight = ofManyStores();
+            goOn(straight, day);
+            Check.due("the day behind " + n + " turns", x.count(3), day);
+            Check.due("all is as on day " + day, look(x).equals(look(straight)), true);
+            can = Math.min(30, can + turns[n - 1]);
+            Check.due("days that can be undone", x.count(8), can);
+            Check.due("undo", x.undo(), can > 0 ? day - 1 : -1);
         }
-        Check.due("no more", x.undo(), -1);
     }
 
     private static void undoneWithoutDays() {

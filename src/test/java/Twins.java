@@ -29,6 +29,14 @@ final class Twins {
         }
     }
 
+    /** A question: asked again it has the same answer, and nothing is changed by it. */
+    static void apart(String call, Supplier<NeighbourSoup> made, ToLongFunction<NeighbourSoup> ask) {
+        NeighbourSoup first = made.get();
+        long want = answer(first, ask);
+        Check.due(call + " again", answer(first, ask), want);
+        same(call, made, ask, want);
+    }
+
     static long answer(NeighbourSoup x, ToLongFunction<NeighbourSoup> ask) {
         try {
             return ask.applyAsLong(x);
@@ -41,6 +49,7 @@ final class Twins {
         return answer ? 1 : 0;
     }
 
+    /** Few enough calls to stay below the 512 that an object is used for. */
     private static List<Long> everything(NeighbourSoup x) {
         List<Long> all = new ArrayList<>();
         all.add((long) x.fault(0));
@@ -48,7 +57,7 @@ final class Twins {
         state(x, all);
         for (int i = 0; i <= 30; i++) {
             all.add((long) x.undo());
-            if (i % 5 == 0) {
+            if (i % 10 == 1) {
                 stores(x, all);
             }
         }
@@ -71,7 +80,8 @@ final class Twins {
         for (int what = 0; what <= 10; what++) {
             all.add((long) x.count(what));
         }
-        for (int house = 0; house < x.count(0); house++) {
+        int houses = x.count(0);
+        for (int house = 0; house < houses; house++) {
             for (int what = 5; what <= 9; what++) {
                 all.add((long) x.house(house, what));
             }
@@ -82,7 +92,8 @@ final class Twins {
     }
 
     private static void stores(NeighbourSoup x, List<Long> all) {
-        for (int house = 0; house < x.count(0); house++) {
+        int houses = x.count(0);
+        for (int house = 0; house < houses; house++) {
             for (int stuff = 0; stuff < 5; stuff++) {
                 all.add((long) x.house(house, stuff));
             }
