@@ -394,6 +394,10 @@ public final class QuestionBoundTest {
         Check.due("the last one harms nobody", x.guilty(1, 1, 0), 4);
         Check.due("two of one grain nobody gets", x.guilty(1, 2, 0), 7);
         Check.due("the whole set", x.guilty(99, 1, 7), 0);
+        x.order(210);
+        Check.due("house 2 first: nothing is in the pot behind it, 1 gets 5, 0 gets 94", x.guilty(99, 5, 3), 4);
+        Check.due("house 1 harms house 0", x.guilty(99, 99, 1), 2);
+        Check.due("house 0 is the last one", x.guilty(99, 1, 0), 1);
     }
 
     /** Promise 24: "NONE: it can't be, no such ones, out of bounds (least 1 .. 99)." */

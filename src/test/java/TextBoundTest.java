@@ -97,6 +97,25 @@ public final class TextBoundTest {
         for (int free = 1; free <= 19; free++) {
             feedInto(free);
         }
+        for (int sign = 1; sign <= 255; sign++) {
+            for (int shift = 0; shift <= 24; shift += 8) {
+                feedOne(sign << shift);
+            }
+        }
+    }
+
+    /** Any byte but 0 is one more, wherever it stands in its number. */
+    private static void feedOne(int number) {
+        NeighbourSoup x = new NeighbourSoup();
+        for (int i = 0; i < 7; i++) {
+            x.feed(BLANKS, BLANKS, BLANKS, BLANKS, BLANKS);
+        }
+        x.feed(BLANKS, BLANKS, BLANKS, BLANKS, BLANKS << 8);
+        Check.due("159 are there", x.count(2), 159);
+        Check.due("two more of " + number, x.feed(number, 0, number, 0, 0), -1);
+        Check.due("one more of " + number, x.feed(0, number, 0, 0, 0), 160);
+        Check.due("one beyond of " + number, x.feed(0, 0, 0, number, 0), -1);
+        Check.due("160 are there", x.count(2), 160);
     }
 
     /** Of what is too much nothing comes to the tape, not even its first bytes; just as much as there is room does. */
@@ -447,7 +466,10 @@ public final class TextBoundTest {
         for (int depth = 1; depth <= 7; depth++) {
             for (int outer = 0; outer <= depth; outer++) {
                 for (int mask = 0; mask < 1 << outer; mask++) {
-                    nested(outer, mask, depth - outer);
+                    nested(outer, mask, depth - outer, "");
+                    nested(outer, mask, depth - outer, "1=1&");
+                    nested(outer, mask, depth - outer, "1=1|");
+                    nested(outer, mask, depth - outer, "!1=1&[2]>0|");
                 }
             }
         }
@@ -457,16 +479,29 @@ public final class TextBoundTest {
         refusedText(1, "y:[[[[[[[1]]]]]]]");
     }
 
-    private static void nested(int outer, int mask, int brackets) {
+    /** Signs within one another, with other units ahead of those in the first of the brackets. */
+    private static void nested(int outer, int mask, int brackets, String units) {
         StringBuilder text = new StringBuilder("y:");
         StringBuilder behind = new StringBuilder();
+        int seventh = -1;
+        boolean first = true;
         for (int i = 0; i < outer; i++) {
             boolean not = (mask >> i & 1) == 1;
+            seventh = i == 6 ? text.length() : seventh;
             text.append(not ? '!' : '(');
             behind.append(not ? "" : ")");
+            if (!not && first) {
+                text.append(units);
+                first = false;
+            }
         }
+        seventh = outer + brackets == 7 && outer < 7 ? text.length() + 6 - outer : seventh;
         text.append("[".repeat(brackets)).append('l').append("]".repeat(brackets)).append(">1").append(behind);
-        fault(1, text + "?1", outer + brackets <= 6 ? -1 : 8);
+        // in the sixth bracket the units themselves would be too deep
+        boolean deepUnits = units.startsWith("!") && (mask & 63) == 31 && outer >= 6;
+        if (!deepUnits) {
+            fault(1, text + "?1", seventh);
+        }
     }
 
     /** "the length, if it ends too early": each text cut short, blanks behind it. */
