@@ -43,6 +43,7 @@ public final class QuestionBoundTest {
         lastsRefused();
         lastsAtItsBounds();
         left();
+        nothingOfAnotherStreet();
         Check.finish();
     }
 
@@ -595,5 +596,25 @@ public final class QuestionBoundTest {
             most.fill(house, 0, 99);
         }
         Check.due("as many as can be", most.left(), 1140);
+    }
+
+    /** "all that was of another one is gone": what more houses got there is not counted here. */
+    private static void nothingOfAnotherStreet() {
+        NeighbourSoup x = Check.street("pa99;ha99l0;hl0;hl0;hl0;hl0;hl0");
+        x.order(13452);
+        x.put(0, 0);
+        Check.due("house 2 takes all", x.left(), 109);
+        Check.due("house 2 gets all poison", x.poison(0, 99, 2), 99);
+        Check.street(x, "pa9;hl4;hl0");
+        Check.due("poison of two houses", x.guilty(99, 99, 2), 1);
+        Check.due("nobody else is there", x.harm(1, 99, 0), 99);
+        Check.due("nobody else gets any", x.harm(1, 99, 1), 0);
+        Check.due("meals of two houses", x.puts(0, 1), 18);
+        Check.due("the least of two", x.puts(1, 1), 8);
+        Check.due("orders of two", x.orders(0, 0), 1);
+        Check.due("exchange of two", x.exchange(0), -1);
+        Check.due("less of two", x.stranger(0, 5, 1), 10);
+        Check.due("left of two", x.left(), 5);
+        Check.due("about two", x.about(-1, 1), 0);
     }
 }
