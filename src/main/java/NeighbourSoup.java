@@ -22,6 +22,8 @@ public final class NeighbourSoup {
     private static final int MOST_NOONS = 99;
     private static final int MOST_WORTH = 1000000;
     private static final int WEEK = 7;
+    /** Above all grains and all meals. */
+    private static final int GREATEST_INT = 2147483647;
 
     private static final int STUFFS = 5;
     private static final int NOTHING = 9;
@@ -1236,7 +1238,7 @@ public final class NeighbourSoup {
                 return;
             }
             placeOf[house] = place;
-            int ladle = isLast(place) ? Integer.MAX_VALUE : street.ladle[house];
+            int ladle = isLast(place) ? GREATEST_INT : street.ladle[house];
             scoop(pot[place], ladle, taken[house], pot[place + 1]);
         }
 
@@ -1306,7 +1308,7 @@ public final class NeighbourSoup {
         }
 
         int leastMeal() {
-            int least = Integer.MAX_VALUE;
+            int least = GREATEST_INT;
             for (int house = 0; house < street.houses; house++) {
                 least = Math.min(least, mealOf(house));
             }
@@ -1375,7 +1377,7 @@ public final class NeighbourSoup {
         }
 
         private int noMeal() {
-            return wish == TOGETHER ? 0 : Integer.MAX_VALUE;
+            return wish == TOGETHER ? 0 : GREATEST_INT;
         }
 
         private int withMeal(int soFar, int meal) {
